@@ -575,6 +575,8 @@ public final class SquarePlanes {
         final int[] axisXs;
         final int[] axisYs;
         final int[] axisZs;
+        /** The dot of each AXIS with itself. */
+        private final int[] axisSquares;
         int axisCount;
         /** The sign of each POLE's dot with the triple that was looked along last. */
         private final int[] poleSigns;
@@ -589,6 +591,7 @@ public final class SquarePlanes {
             axisXs = new int[pairCount];
             axisYs = new int[pairCount];
             axisZs = new int[pairCount];
+            axisSquares = new int[pairCount];
             poleSigns = new int[poleCount];
             fillPairs();
             for (int k = 0; k < pairCount; k++) {
@@ -641,6 +644,7 @@ public final class SquarePlanes {
             axisXs[axisCount] = x;
             axisYs[axisCount] = y;
             axisZs[axisCount] = z;
+            axisSquares[axisCount] = x * x + y * y + z * z;
             axisCount++;
             return axisCount - 1;
         }
@@ -676,7 +680,11 @@ public final class SquarePlanes {
         }
 
         int seenSign(int s) {
-            return sense(s) * poleSigns[lesser[s / 2]] * poleSigns[greater[s / 2]];
+            return sense(s) * seenPairSign(s / 2);
+        }
+
+        int seenPairSign(int k) {
+            return poleSigns[lesser[k]] * poleSigns[greater[k]];
         }
 
         private static int sense(int s) {
@@ -693,7 +701,7 @@ public final class SquarePlanes {
         }
 
         int apartLower(int a, int b) {
-            return axisDot(a, a) * axisDot(b, b);
+            return axisSquares[a] * axisSquares[b];
         }
     }
 
@@ -742,8 +750,9 @@ public final class SquarePlanes {
         private void addStation(Stations stations, int n) {
             planes.lookAlong(stations.xs[n], stations.ys[n], stations.zs[n]);
             int weight = stations.weights[n];
+            int sign = stations.signs[n];
             for (int k = 0; k < nodals.length; k++) {
-                int agrees = planes.seenSign(2 * k) * stations.signs[n];
+                int agrees = planes.seenPairSign(k) * sign;
                 if (agrees == 0) {
                     nodals[k] += weight;
                 } else if (agrees < 0) {

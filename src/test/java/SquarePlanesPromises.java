@@ -77,6 +77,10 @@ public final class SquarePlanesPromises {
         }
         due("2 refusals change nothing", x.ofStation(0, 0), 6);
         due("2 count", x.many(0), 2);
+        SquarePlanes y = quarters();
+        due("2 MISFIT ahead", y.solution(9, 0), 10);
+        y.station(3, 3, -2, 0);
+        due("2 MISFIT behind", y.solution(9, 0), 6);
     }
 
     private static void promise3Sign() {
@@ -111,6 +115,11 @@ public final class SquarePlanesPromises {
             due("4 far w", x.weigh(5, far), SquarePlanes.OUTSIDE);
         }
         due("4 refusals change nothing", x.ofStation(5, 4), 2);
+        due("4 back to 1", x.weigh(5, 1), 2);
+        SquarePlanes y = quarters();
+        due("4 MISFIT ahead", y.solution(9, 0), 10);
+        y.weigh(0, 4);
+        due("4 MISFIT behind", y.solution(9, 0), 13);
     }
 
     private static void promise5Drop() {
@@ -164,6 +173,11 @@ public final class SquarePlanesPromises {
         due("6 the mirror leaves level ones", y.turn(3), 1);
         y.drop(1);
         due("6 one that was dropped is not turned", y.turn(3), 0);
+        SquarePlanes q = quarters();
+        due("6 MISFIT ahead", q.solution(9, 0), 10);
+        due("6 a quarter about z", q.turn(2), 4);
+        due("6 MISFIT behind", q.solution(9, 0), 0);
+        due("6 MISFIT behind, SENSE 1", q.solution(8, 0), 10);
     }
 
     private static void promise7OfStation() {
@@ -611,6 +625,13 @@ public final class SquarePlanesPromises {
         due("22 without SIGN", x.turned(23, 0), SquarePlanes.STATE);
         due("22 OUTSIDE ahead of STATE", x.turned(23, 2), SquarePlanes.OUTSIDE);
         due("22 not there", x.turned(22, 0), SquarePlanes.UNKNOWN);
+        SquarePlanes full = new SquarePlanes();
+        full.size(1);
+        for (int n = 0; n < 24; n++) put(full, n, new int[] {9, 5, 2}, n == 23 ? -1 : 1, 4);
+        // At (9, 5, 2) no POLE of SIZE 1 has the dot 0: half of all SOLUTIONS are up, half down.
+        due("22 the most AGAINST", full.solution(8, 0) * 100 + full.solution(9, 0), 492);
+        due("22 LEAST of the most", full.turned(23, 0) * 100 + full.turned(0, 0), 8);
+        due("22 KEPT of the most", full.turned(23, 1) * 100 + full.turned(0, 1), 2424);
         due("22 low what", x.turned(0, -1), SquarePlanes.OUTSIDE);
         due("22 UNKNOWN first", x.turned(24, 2), SquarePlanes.UNKNOWN);
         for (int far : FAR_OUT) {
