@@ -7,7 +7,7 @@ import java.util.Arrays;
 import java.util.Set;
 import java.util.TreeSet;
 
-/** Each promise by itself, with answers that were worked out by hand from the document. */
+/** Each promise by itself: answers worked out by hand from the document, or held against other calls. */
 public final class SquarePlanesPromises {
     private static final int[] FAR_OUT = {Integer.MIN_VALUE, Integer.MAX_VALUE};
     private static int wrong = 0;
