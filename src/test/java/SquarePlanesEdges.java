@@ -324,6 +324,12 @@ public final class SquarePlanesEdges {
             Edges.due("KEPT", x.many(3), 24);
             Edges.due("the first", x.kept(0), 1);
         });
+        Edges.edge("Terms: LEAST is that of the first SOLUTION alone, or of the last alone", () -> {
+            dueKept(Edges.withStations(1,
+                new int[] {-3, 1, 0, -1, 1}, new int[] {-3, 1, 1, 1, 3}, new int[] {-3, 0, 2, -1, 1}), 0);
+            dueKept(Edges.withStations(1,
+                new int[] {2, -2, -3, -1, 4}, new int[] {1, -2, -3, 1, 3}, new int[] {0, -1, -2, -1, 3}), 47);
+        });
         Edges.edge("Terms: LEAST at its greatest, half of all WEIGHTS", () -> {
             SquarePlanes x = Edges.full(2, Edges.STEEP, 12);
             Edges.due("LEAST", x.many(4), 48);
@@ -386,6 +392,20 @@ public final class SquarePlanesEdges {
             Edges.dueTrue("8 is ahead of 9", x.solution(8, 4) < x.solution(9, 4));
             Edges.due("29 is not KEPT", x.solution(29, 4), Edges.NONE);
         });
+        Edges.edge("Terms: KEPT at their edge: EXTRA 9 above LEAST, with the most NODAL ones there can be", () -> {
+            SquarePlanes x = Edges.ofSize(1);
+            for (int n = 0; n < 21; n++) Edges.put(x, n, UPRIGHT, n % 2 == 0 ? 1 : -1, 4);
+            for (int n = 21; n < 24; n++) Edges.put(x, n, Edges.STEEP, 1, n < 23 ? 4 : 1);
+            x.extra(9);
+            Edges.due("KEPT, those that SLIDE", x.many(3), 28);
+            Edges.due("MISFIT and NODAL of the last", x.solution(47, 0) * 100 + x.solution(47, 1), 984);
+            Edges.due("the first of SENSE -1", x.solution(1, 4), 14);
+            Edges.due("the last", x.solution(47, 4), 27);
+        });
+        Edges.edge("Terms: by the WEIGHTS of NODAL ones together, not by how many they are", () ->
+            // One is NODAL at each: of WEIGHT 1 at 39, of WEIGHT 2 at 9.
+            dueKept(Edges.withStations(1,
+                new int[] {0, -3, -2, 1, 2}, new int[] {-1, 1, -3, 1, 3}, new int[] {-3, 1, 2, 1, 1}), 39, 9));
         Edges.edge("Terms: by number, if all else is alike", () -> {
             SquarePlanes x = new SquarePlanes();
             for (int k = 0; k < 276; k++) Edges.due("KEPT " + k, x.kept(k), k);
@@ -594,6 +614,14 @@ public final class SquarePlanesEdges {
             x.station(3, 9, 3, 1);
             Edges.due("SIGN and WEIGHT", x.ofStation(3, 3) * 10 + x.ofStation(3, 4), 11);
         });
+        Edges.edge("Promise 2: in place of any: what the one before told is told no more", () -> {
+            SquarePlanes x = Edges.withStations(1, new int[] {9, 3, 1, -1, 4});
+            Edges.due("KEPT", x.many(3), 24);
+            Edges.due("CENTRE", x.centre(), 1);
+            x.station(0, 9, 3, 1);
+            Edges.due("KEPT, all", x.many(3), 48);
+            Edges.due("CENTRE of all", x.centre(), 0);
+        });
         Edges.edge("Promise 2: all 24, and each again", () -> {
             SquarePlanes x = new SquarePlanes();
             for (int n = 0; n < 24; n++) Edges.due("new", x.station(n, 1, 2, 3), 0);
@@ -630,6 +658,61 @@ public final class SquarePlanesEdges {
         });
     }
 
+    private static final Edges.Ask[] CHANGES = {x -> x.station(0, 5, 0, 0), x -> x.sign(0, -1), x -> x.weigh(1, 1),
+        x -> x.drop(2), x -> x.turn(0), x -> x.extra(4), x -> x.size(2)};
+
+    private static SquarePlanes beforeChanges() {
+        return Edges.withStations(1, new int[] {9, 3, 1, 1, 2}, new int[] {0, 0, 5, -1, 3}, new int[] {1, 2, 3, 1, 1});
+    }
+
+    private static long[] keptAndCentre(SquarePlanes x) {
+        long[] told = new long[60];
+        for (int what = 0; what < 10; what++) told[what] = x.many(what);
+        for (int i = 0; i < 5; i++) told[10 + i] = x.kept(i);
+        for (int s = 0; s < 40; s++) told[15 + s] = x.solution(s, 0);
+        told[55] = x.spread(0);
+        told[56] = x.spread(1);
+        told[57] = x.centre();
+        return told;
+    }
+
+    /** One object is asked ahead of the changes, the other is not: both must tell the same afterwards. */
+    private static void changesAreSeen() {
+        Edges.edge("Promises 2 to 9: a change is seen by the next question, whatever was asked ahead", () -> {
+            for (Edges.Ask change : CHANGES) {
+                SquarePlanes asked = beforeChanges(), other = beforeChanges();
+                keptAndCentre(asked);
+                change.of(asked);
+                change.of(other);
+                Edges.dueTrue("both tell the same", Arrays.equals(keptAndCentre(asked), keptAndCentre(other)));
+            }
+        });
+        Edges.edge("Promises 2 to 9: two changes one behind the other are seen by the next question", () -> {
+            for (Edges.Ask one : CHANGES) {
+                for (Edges.Ask next : CHANGES) {
+                    SquarePlanes asked = beforeChanges(), other = beforeChanges();
+                    keptAndCentre(asked);
+                    one.of(asked);
+                    next.of(asked);
+                    one.of(other);
+                    next.of(other);
+                    Edges.dueTrue("both tell the same", Arrays.equals(keptAndCentre(asked), keptAndCentre(other)));
+                }
+            }
+        });
+        Edges.edge("Promises 2, 6, 8, 9: the first call of an object is a change, the second a question", () -> {
+            SquarePlanes[] all = {new SquarePlanes(), new SquarePlanes(), new SquarePlanes(), new SquarePlanes()};
+            all[0].station(0, 1, 2, 3);
+            all[1].turn(0);
+            all[2].size(2);
+            all[3].extra(9);
+            for (SquarePlanes x : all) {
+                Edges.due("KEPT, all", x.many(3), 276);
+                Edges.due("unlike AXES", x.many(5), 109);
+            }
+        });
+    }
+
     private static void promises5To7() {
         Edges.edge("Promise 5: how many are left, from 24 to none", () -> {
             SquarePlanes x = Edges.full(1, Edges.STEEP, 24);
@@ -662,6 +745,19 @@ public final class SquarePlanesEdges {
         });
         Edges.edge("Promise 6: a DIRECTION that is turned to its other way is another one", () ->
             Edges.due("the mirror", Edges.withStations(1, new int[] {0, 0, 1, 0, 1}).turn(3), 1));
+        Edges.edge("Promise 6: a DIRECTION of which but one number becomes another is another one", () -> {
+            int[][] from = {{1, 2, 2}, {3, 1, -3}, {2, 2, 5}, {4, 5, 6}};
+            int[][] to = {{1, -2, 2}, {-3, 1, -3}, {-2, 2, 5}, {4, 5, -6}};
+            int[][] third = {{1, 2, -2}, {3, 1, 3}, {2, -2, 5}, {0, 0, 1}};
+            for (int how = 0; how < 4; how++) {
+                SquarePlanes x = new SquarePlanes();
+                x.station(0, from[how][0], from[how][1], from[how][2]);
+                Edges.due("turn " + how, x.turn(how), 1);
+                dueDirection(x, 0, to[how]);
+                x.station(0, third[how][0], third[how][1], third[how][2]);
+                Edges.due("turn " + how + ", the other number", x.turn(how), 1);
+            }
+        });
         Edges.edge("Promise 6: a STATION that is no more is not turned, nor counted", () -> {
             SquarePlanes x = Edges.withStations(1, new int[] {1, 2, 3, 1, 1}, new int[] {1, 2, 3, 1, 1});
             x.drop(0);
@@ -780,6 +876,19 @@ public final class SquarePlanesEdges {
                 Edges.dueTrue("it is one by the next SIZE", x.poleOf(0, 1, size + 1) >= Edges.POLES[size]);
             }
             Edges.due("(4, 1, 0) is none by SIZE 3", Edges.ofSize(3).poleOf(4, 1, 0), Edges.NONE);
+        });
+        Edges.edge("Promise 11: NONE: the first POLE of the next SIZE, and the last", () -> {
+            SquarePlanes x = Edges.ofSize(1);
+            Edges.due("(0, 1, -2) by SIZE 1", x.poleOf(0, 1, -2), Edges.NONE);
+            Edges.due("(2, 2, 1) by SIZE 1", x.poleOf(2, 2, 1), Edges.NONE);
+            x.size(2);
+            Edges.due("(0, 1, -2) by SIZE 2", x.poleOf(0, 1, -2), 13);
+            Edges.due("(2, 2, 1) by SIZE 2", x.poleOf(2, 2, 1), 48);
+            Edges.due("(0, 1, -3) by SIZE 2", x.poleOf(0, 1, -3), Edges.NONE);
+            Edges.due("(3, 3, 2) by SIZE 2", x.poleOf(3, 3, 2), Edges.NONE);
+            x.size(3);
+            Edges.due("(0, 1, -3) by SIZE 3", x.poleOf(0, 1, -3), 49);
+            Edges.due("(3, 3, 2) by SIZE 3", x.poleOf(3, 3, 2), 144);
         });
         Edges.edge("Promise 11: NONE: what is left when divided is still too great", () -> {
             Edges.due("(8, 2, 0)", Edges.ofSize(3).poleOf(8, 2, 0), Edges.NONE);
@@ -1019,6 +1128,12 @@ public final class SquarePlanesEdges {
             x.extra(8);
             Edges.due("KEPT by EXTRA 8", x.turned(0, 1), 276);
         });
+        Edges.edge("Promise 22: the last of all 24 the other way, so that all 96 are against each odd one", () -> {
+            SquarePlanes x = Edges.full(1, Edges.STEEP, 23);
+            Edges.due("LEAST now", x.many(4), 4);
+            Edges.due("LEAST", x.turned(23, 0), 0);
+            Edges.due("KEPT", x.turned(23, 1), 24);
+        });
         Edges.edge("Promise 22: LEAST can rise: one of all 24 the other way, where all are up", () -> {
             SquarePlanes x = Edges.full(1, Edges.STEEP, 24);
             Edges.due("LEAST now", x.many(4), 0);
@@ -1116,6 +1231,7 @@ public final class SquarePlanesEdges {
         termsOfSpreadAndCentre();
         termsOfTurns();
         promises1To4();
+        changesAreSeen();
         promises5To7();
         promises8To13();
         promises14To17();

@@ -519,17 +519,23 @@ public final class SquarePlanesPromises {
         dueSpread(y);
     }
 
+    /** The KEPT ones, read once, as an object has but 512 calls. */
+    private static int[] keptOnes(SquarePlanes x) {
+        int[] all = new int[x.many(3)];
+        for (int k = 0; k < all.length; k++) all[k] = x.kept(k);
+        return all;
+    }
+
     /** SPREAD is one of the APARTS, and none is greater. */
     private static void dueSpread(SquarePlanes x) {
         long upper = x.spread(0), lower = x.spread(1);
-        int kept = x.many(3);
+        int[] kept = keptOnes(x);
         int reached = 0;
-        for (int i = 0; i < kept; i++) {
-            for (int j = 0; j < kept; j++) {
-                int s = x.kept(i), t = x.kept(j);
-                long here = x.apart(s, t, 0) * lower, there = upper * x.apart(s, t, 1);
-                due("19 none is greater", here > there ? 1 : 0, 0);
-                if (x.apart(s, t, 0) == upper && x.apart(s, t, 1) == lower) reached = 1;
+        for (int i = 0; i < kept.length; i++) {
+            for (int j = i; j < kept.length; j++) {
+                long here = x.apart(kept[i], kept[j], 0), by = x.apart(kept[i], kept[j], 1);
+                due("19 none is greater", here * lower > upper * by ? 1 : 0, 0);
+                if (here == upper && by == lower) reached = 1;
             }
         }
         due("19 one reaches it", reached, 1);
@@ -548,26 +554,19 @@ public final class SquarePlanesPromises {
         dueCentre(y);
     }
 
-    private static double farthest(SquarePlanes x, int s) {
-        double most = 0;
-        for (int j = 0; x.kept(j) != SquarePlanes.UNKNOWN; j++) {
-            int t = x.kept(j);
-            most = Math.max(most, (double) x.apart(s, t, 0) / x.apart(s, t, 1));
-        }
-        return most;
-    }
-
     private static void dueCentre(SquarePlanes x) {
-        double best = 2;
-        int found = -1;
-        for (int k = 0; x.kept(k) != SquarePlanes.UNKNOWN; k++) {
-            double here = farthest(x, x.kept(k));
-            if (here < best) {
-                best = here;
-                found = x.kept(k);
+        int[] kept = keptOnes(x);
+        double[] farthest = new double[kept.length];
+        for (int i = 0; i < kept.length; i++) {
+            for (int j = i; j < kept.length; j++) {
+                double here = (double) x.apart(kept[i], kept[j], 0) / x.apart(kept[i], kept[j], 1);
+                farthest[i] = Math.max(farthest[i], here);
+                farthest[j] = Math.max(farthest[j], here);
             }
         }
-        due("20 CENTRE", x.centre(), found);
+        int best = 0;
+        for (int i = 1; i < kept.length; i++) if (farthest[i] < farthest[best]) best = i;
+        due("20 CENTRE", x.centre(), kept[best]);
     }
 
     /** What `without` and `turned` tell, asked of an object on which it was done. */
