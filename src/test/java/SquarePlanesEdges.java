@@ -231,7 +231,7 @@ public final class SquarePlanesEdges {
             }
         }
         Edges.due("PAIRS", Edges.ofSize(size).many(2), due);
-        Edges.due("PAIRS, counted by hand", Edges.PAIRS[size], due);
+        Edges.due("PAIRS that the other tests rest on", Edges.PAIRS[size], due);
     }
 
     private static void termsOfSolutions() {
